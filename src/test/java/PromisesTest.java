@@ -165,7 +165,9 @@ public final class PromisesTest {
     private static void promise5ForceWrongInputs() {
         DimerCounter x = striped();
         for (int bad : NO_PLACES) {
-            check.due("5: force(5, " + bad + ")", x.force(5, bad), DimerCounter.BAD_PLACE);
+            for (int s = 0; s < 16; s++) {
+                check.due("5: force(" + s + ", " + bad + ")", x.force(s, bad), DimerCounter.BAD_PLACE);
+            }
         }
         for (int bad : NO_SQUARES) {
             for (int p = 0; p < 24; p++) {
