@@ -1,4 +1,4 @@
-/** Each promise of the document by examples worked out by hand. */
+/** Each promise of the document by small examples whose answers can be followed by hand. */
 public final class PromisesTest {
     private static final int[] NO_PLACES = {-1, 24, 25, -2, 100, Integer.MIN_VALUE, Integer.MAX_VALUE};
     private static final int[] NO_WEIGHTS = {-1, 5, -2, 100, Integer.MIN_VALUE, Integer.MAX_VALUE};
@@ -98,7 +98,7 @@ public final class PromisesTest {
         }
     }
 
-    /** The place on which place p lies after a quarter turn, drawn from a turned board. */
+    /** The place on which place p lies after a quarter turn, by the document's rule for squares. */
     private static final int[] TURNED_TO = {
         15, 19, 23, 14, 18, 22, 13, 17, 21, 12, 16, 20,
         2, 5, 8, 11, 1, 4, 7, 10, 0, 3, 6, 9,
@@ -207,7 +207,7 @@ public final class PromisesTest {
     private static void promise8TotalWith() {
         DimerCounter x = new DimerCounter();
         // A corner is covered across in half of the tilings, by symmetry. Place 5 is in 12 of
-        // them. The shares of the places that cover one square add up to 36: 18 + 12 + 6 on
+        // them, as ../shared/tests has 24 without it. The shares of the places that cover one square add up to 36: 18 + 12 + 6 on
         // an edge, 12 + 12 + 6 + 6 inside.
         int[] acrossShares = {18, 6, 18, 12, 6, 12, 12, 6, 12, 18, 6, 18};
         for (int p = 0; p < 12; p++) {
