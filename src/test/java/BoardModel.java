@@ -47,8 +47,8 @@ final class BoardModel {
         }
     }
 
-    int tilingCount() {
-        return tilings.size();
+    List<List<Integer>> tilings() {
+        return tilings;
     }
 
     private static boolean within(int value, int greatest) {

@@ -1,6 +1,7 @@
 /** Counts wrong answers for one test, prints each, and ends the program with 1 if there was one. */
 final class Check {
     private final String test;
+    private String part = "";
     private int checks = 0;
     private int wrong = 0;
 
@@ -8,11 +9,25 @@ final class Check {
         this.test = test;
     }
 
+    /** Runs the test of one sentence; what is wrong there is printed with the sentence. */
+    void sentence(String heading, String sentence, Runnable body) {
+        int checksBefore = checks;
+        part = heading + ", \"" + sentence + "\": ";
+        try {
+            body.run();
+        } catch (RuntimeException e) {
+            // Told as one more wrong answer, so that the sentences after it are still tested.
+            that("no call throws, but one threw " + e, false);
+        }
+        that("something is checked", checks > checksBefore);
+        part = "";
+    }
+
     void due(String what, long got, long want) {
         checks++;
         if (got != want) {
             wrong++;
-            System.out.println(test + ": " + what + " answered " + got + ", due is " + want);
+            System.out.println(test + ": " + part + what + " answered " + got + ", due is " + want);
         }
     }
 
@@ -24,7 +39,7 @@ final class Check {
         checks++;
         if (!holds) {
             wrong++;
-            System.out.println(test + ": does not hold: " + what);
+            System.out.println(test + ": " + part + "does not hold: " + what);
         }
     }
 

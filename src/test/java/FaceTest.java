@@ -43,7 +43,33 @@ public final class FaceTest {
             check.that(method + " has at most seven parameters", method.getParameterCount() <= 7);
             check.that(method + " answers no array", !method.getReturnType().isArray());
         }
+        check.sentence("LANGUAGE.md, rule 7", "No call may ever throw or fail to end",
+                () -> noCallThrows(check));
         check.end();
+    }
+
+    /** The rule holds past the 512th call, too, where the answers are free. */
+    private static void noCallThrows(Check check) {
+        int[] numbers = {Integer.MIN_VALUE, -65536, -32, -1, 0, 4, 5, 11, 12, 15, 16, 23, 24, 32, 65536,
+            Integer.MAX_VALUE};
+        DimerCounter x = new DimerCounter();
+        for (int a : numbers) {
+            for (int b : numbers) {
+                x.weight(a, b);
+                x.force(a, b);
+                x.totalWithBoth(a, b);
+            }
+            x.all(a);
+            x.weightOf(a);
+            x.totalWith(a);
+            x.canUse(a);
+            x.turn();
+            x.total();
+            x.possible();
+            x.settled();
+            x.acrossTotal();
+        }
+        check.that("every call has come to its end", true);
     }
 
     private static Set<String> membersNotPrivate(Class<?> type) {

@@ -9,7 +9,7 @@ public final class ModelRunsTest {
 
     public static void main(String[] args) {
         check = new Check("ModelRunsTest");
-        check.due("tilings of the model", new BoardModel().tilingCount(), 36);
+        check.due("tilings of the model", new BoardModel().tilings().size(), 36);
         everyPairOfPlaces();
         everyForce();
         for (int run = 0; run < RUNS; run++) {

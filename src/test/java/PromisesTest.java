@@ -1,8 +1,8 @@
-/** Each promise of the document by small examples whose answers can be followed by hand. */
+/**
+ * Promises 1 to 13 by small examples whose answers can be followed by hand. The edges and the
+ * refused calls, and with them Promise 14, are in EdgesTest and RefusalsTest.
+ */
 public final class PromisesTest {
-    private static final int[] NO_PLACES = {-1, 24, 25, -2, 100, Integer.MIN_VALUE, Integer.MAX_VALUE};
-    private static final int[] NO_WEIGHTS = {-1, 5, -2, 100, Integer.MIN_VALUE, Integer.MAX_VALUE};
-    private static final int[] NO_SQUARES = {-1, 16, 17, 32, Integer.MIN_VALUE, Integer.MAX_VALUE};
     private static final int BOARD_OF_FOURS = 36 * 65536;
 
     private static Check check;
@@ -14,7 +14,6 @@ public final class PromisesTest {
         promise3All();
         promise4Turn();
         promise5Force();
-        promise5ForceWrongInputs();
         promise6WeightOf();
         promise7Total();
         promise8TotalWith();
@@ -23,36 +22,8 @@ public final class PromisesTest {
         promise11CanUse();
         promise12Settled();
         promise13AcrossTotal();
-        promise14Order();
-        constants();
         objectsAreApart();
-        askingChangesNothing();
         check.end();
-    }
-
-    /** Weights that tell most places apart: place p has the weight p % 5. */
-    private static DimerCounter striped() {
-        DimerCounter x = new DimerCounter();
-        for (int p = 0; p < 24; p++) {
-            x.weight(p, p % 5);
-        }
-        return x;
-    }
-
-    private static void dueStriped(String after, DimerCounter x) {
-        for (int p = 0; p < 24; p++) {
-            check.due(after + ": weightOf(" + p + ")", x.weightOf(p), p % 5);
-        }
-    }
-
-    /** Only the tiling whose dominoes all lie across has a worth above 0. */
-    private static DimerCounter acrossOnly(int weight) {
-        DimerCounter x = new DimerCounter();
-        x.all(0);
-        for (int p = 0; p < 12; p++) {
-            x.weight(p, weight);
-        }
-        return x;
     }
 
     private static void promise1NewObject() {
@@ -74,22 +45,11 @@ public final class PromisesTest {
             }
             check.due("2: weight again", x.weight(p, p % 5), 0);
         }
-        dueStriped("2: after weight", x);
-        for (int bad : NO_PLACES) {
-            check.due("2: weight(" + bad + ", 3)", x.weight(bad, 3), DimerCounter.BAD_PLACE);
-        }
-        for (int bad : NO_WEIGHTS) {
-            check.due("2: weight(7, " + bad + ")", x.weight(7, bad), DimerCounter.BAD_WEIGHT);
-        }
-        dueStriped("2: after wrong inputs", x);
+        Boards.dueStriped(check, "2: weight", x);
     }
 
     private static void promise3All() {
-        DimerCounter x = striped();
-        for (int bad : NO_WEIGHTS) {
-            check.due("3: all(" + bad + ")", x.all(bad), DimerCounter.BAD_WEIGHT);
-        }
-        dueStriped("3: after wrong inputs", x);
+        DimerCounter x = Boards.striped();
         for (int w = 0; w <= 4; w++) {
             check.due("3: all(" + w + ")", x.all(w), 0);
             for (int p = 0; p < 24; p++) {
@@ -119,7 +79,7 @@ public final class PromisesTest {
             }
             check.due("4: four turns bring place " + p + " back to", at, p);
         }
-        DimerCounter y = striped();
+        DimerCounter y = Boards.striped();
         y.turn();
         for (int p = 0; p < 24; p++) {
             check.due("4: striped, where " + p + " went", y.weightOf(TURNED_TO[p]), p % 5);
@@ -127,7 +87,7 @@ public final class PromisesTest {
         y.turn();
         y.turn();
         y.turn();
-        dueStriped("4: after four turns", y);
+        Boards.dueStriped(check, "4: four turns", y);
     }
 
     private static void promise5Force() {
@@ -162,32 +122,8 @@ public final class PromisesTest {
         check.due("5: a weight of 0 is not counted", half.force(5, 4), 2);
     }
 
-    private static void promise5ForceWrongInputs() {
-        DimerCounter x = striped();
-        for (int bad : NO_PLACES) {
-            for (int s = 0; s < 16; s++) {
-                check.due("5: force(" + s + ", " + bad + ")", x.force(s, bad), DimerCounter.BAD_PLACE);
-            }
-        }
-        for (int bad : NO_SQUARES) {
-            for (int p = 0; p < 24; p++) {
-                check.due("5: force(" + bad + ", " + p + ")", x.force(bad, p), DimerCounter.BAD_PLACE);
-            }
-        }
-        check.due("5: force(-1, -1)", x.force(-1, -1), DimerCounter.BAD_PLACE);
-        check.due("5: force(4, 2), across does not go round", x.force(4, 2), DimerCounter.BAD_PLACE);
-        check.due("5: force(2, 0)", x.force(2, 0), DimerCounter.BAD_PLACE);
-        check.due("5: force(8, 12)", x.force(8, 12), DimerCounter.BAD_PLACE);
-        check.due("5: force(3, 3)", x.force(3, 3), DimerCounter.BAD_PLACE);
-        dueStriped("5: after wrong inputs", x);
-    }
-
     private static void promise6WeightOf() {
-        DimerCounter x = striped();
-        dueStriped("6", x);
-        for (int bad : NO_PLACES) {
-            check.due("6: weightOf(" + bad + ")", x.weightOf(bad), DimerCounter.BAD_PLACE);
-        }
+        Boards.dueStriped(check, "6: striping", Boards.striped());
     }
 
     private static void promise7Total() {
@@ -198,7 +134,7 @@ public final class PromisesTest {
         check.due("7: total() of fours", x.total(), BOARD_OF_FOURS);
         x.all(0);
         check.due("7: total() of zeros", x.total(), 0);
-        check.due("7: total() of one tiling", acrossOnly(3).total(), 6561);
+        check.due("7: total() of one tiling", Boards.acrossOnly(3).total(), 6561);
         DimerCounter y = new DimerCounter();
         y.weight(0, 3);
         check.due("7: half the tilings threefold", y.total(), 18 + 3 * 18);
@@ -207,8 +143,8 @@ public final class PromisesTest {
     private static void promise8TotalWith() {
         DimerCounter x = new DimerCounter();
         // A corner is covered across in half of the tilings, by symmetry. Place 5 is in 12 of
-        // them, as ../shared/tests has 24 without it. The shares of the places that cover one square add up to 36: 18 + 12 + 6 on
-        // an edge, 12 + 12 + 6 + 6 inside.
+        // them, as ../shared/tests has 24 without it. The shares of the places that cover one
+        // square add up to 36: 18 + 12 + 6 on an edge, 12 + 12 + 6 + 6 inside.
         int[] acrossShares = {18, 6, 18, 12, 6, 12, 12, 6, 12, 18, 6, 18};
         for (int p = 0; p < 12; p++) {
             check.due("8: totalWith(" + p + ")", x.totalWith(p), acrossShares[p]);
@@ -220,9 +156,6 @@ public final class PromisesTest {
         check.due("8: totalWith(4), weight 0", x.totalWith(4), 0);
         x.all(4);
         check.due("8: totalWith(0) of fours", x.totalWith(0), BOARD_OF_FOURS / 2);
-        for (int bad : NO_PLACES) {
-            check.due("8: totalWith(" + bad + ")", x.totalWith(bad), DimerCounter.BAD_PLACE);
-        }
     }
 
     private static void promise9TotalWithBoth() {
@@ -241,11 +174,6 @@ public final class PromisesTest {
         x.weight(0, 2);
         x.weight(2, 4);
         check.due("9: both weights count", x.totalWithBoth(0, 2), 88);
-        for (int bad : NO_PLACES) {
-            check.due("9: totalWithBoth(" + bad + ", 0)", x.totalWithBoth(bad, 0), DimerCounter.BAD_PLACE);
-            check.due("9: totalWithBoth(0, " + bad + ")", x.totalWithBoth(0, bad), DimerCounter.BAD_PLACE);
-            check.due("9: totalWithBoth(bad, bad)", x.totalWithBoth(bad, bad), DimerCounter.BAD_PLACE);
-        }
     }
 
     private static void promise10Possible() {
@@ -257,7 +185,7 @@ public final class PromisesTest {
         check.due("10: possible() without place 0", x.possible(), 18);
         x.weight(12, 0);
         check.due("10: a corner that nothing covers", x.possible(), 0);
-        check.due("10: possible() of one tiling", acrossOnly(4).possible(), 1);
+        check.due("10: possible() of one tiling", Boards.acrossOnly(4).possible(), 1);
     }
 
     private static void promise11CanUse() {
@@ -265,12 +193,9 @@ public final class PromisesTest {
         for (int p = 0; p < 24; p++) {
             check.due("11: canUse(" + p + ")", x.canUse(p), true);
         }
-        for (int bad : NO_PLACES) {
-            check.due("11: canUse(" + bad + ")", x.canUse(bad), false);
-        }
         x.weight(0, 0);
         check.due("11: canUse(0), weight 0", x.canUse(0), false);
-        DimerCounter y = acrossOnly(2);
+        DimerCounter y = Boards.acrossOnly(2);
         for (int p = 0; p < 24; p++) {
             check.due("11: across only, canUse(" + p + ")", y.canUse(p), p < 12 && p % 3 != 1);
         }
@@ -279,7 +204,7 @@ public final class PromisesTest {
     private static void promise12Settled() {
         DimerCounter x = new DimerCounter();
         check.due("12: settled()", x.settled(), 0);
-        check.due("12: settled() of one tiling", acrossOnly(4).settled(), 8);
+        check.due("12: settled() of one tiling", Boards.acrossOnly(4).settled(), 8);
         x.force(0, 0);
         check.due("12: settled() after one corner", x.settled(), 1);
         x.force(3, 2);
@@ -300,49 +225,18 @@ public final class PromisesTest {
         check.due("13: acrossTotal() of fours", x.acrossTotal(), 144 * 65536);
         x.all(0);
         check.due("13: acrossTotal() of zeros", x.acrossTotal(), 0);
-        DimerCounter y = acrossOnly(2);
+        DimerCounter y = Boards.acrossOnly(2);
         check.due("13: all lie across", y.acrossTotal(), 8 * 256);
         y.turn();
         check.due("13: none lies across", y.acrossTotal(), 0);
         check.due("13: though there is a tiling", y.total(), 256);
     }
 
-    private static void promise14Order() {
-        DimerCounter x = striped();
-        for (int place : NO_PLACES) {
-            for (int weight : NO_WEIGHTS) {
-                check.due("14: weight(" + place + ", " + weight + ")", x.weight(place, weight),
-                        DimerCounter.BAD_PLACE);
-            }
-        }
-        dueStriped("14: after wrong inputs", x);
-    }
-
-    private static void constants() {
-        check.due("BAD_PLACE", DimerCounter.BAD_PLACE, -1);
-        check.due("BAD_WEIGHT", DimerCounter.BAD_WEIGHT, -2);
-    }
-
     private static void objectsAreApart() {
-        DimerCounter x = striped();
+        DimerCounter x = Boards.striped();
         DimerCounter y = new DimerCounter();
         y.all(3);
         y.turn();
-        dueStriped("another object was changed", x);
-    }
-
-    private static void askingChangesNothing() {
-        DimerCounter x = striped();
-        for (int p = -1; p <= 24; p++) {
-            x.weightOf(p);
-            x.totalWith(p);
-            x.totalWithBoth(p, 23 - p);
-            x.canUse(p);
-        }
-        x.total();
-        x.possible();
-        x.settled();
-        x.acrossTotal();
-        dueStriped("after asking", x);
+        Boards.dueStriped(check, "a change of another object", x);
     }
 }
