@@ -1,3 +1,5 @@
+import java.util.ArrayList;
+import java.util.List;
 import java.util.TreeSet;
 
 /** Boards to begin a test with, and numbers that are out of range. */
@@ -25,6 +27,38 @@ final class Boards {
 
     static boolean lieOnEachOther(int a, int b) {
         return a != b && (covers(a, SQUARES_OF[b][0]) || covers(a, SQUARES_OF[b][1]));
+    }
+
+    /**
+     * The tilings by the words of the document's 'Terms': of all sets of eight places, those that
+     * cover every square just once. Eight places have 16 squares, so to cover all is to cover each once.
+     */
+    static List<List<Integer>> tilings() {
+        List<List<Integer>> found = new ArrayList<>();
+        for (int set = 0; set < 1 << PLACES; set++) {
+            if (Integer.bitCount(set) == 8 && coversAllSquares(set)) {
+                found.add(membersOf(set));
+            }
+        }
+        return found;
+    }
+
+    private static boolean coversAllSquares(int setOfPlaces) {
+        int covered = 0;
+        for (int p : membersOf(setOfPlaces)) {
+            covered |= 1 << SQUARES_OF[p][0] | 1 << SQUARES_OF[p][1];
+        }
+        return covered == (1 << SQUARES) - 1;
+    }
+
+    private static List<Integer> membersOf(int setOfPlaces) {
+        List<Integer> members = new ArrayList<>();
+        for (int p = 0; p < PLACES; p++) {
+            if ((setOfPlaces >> p & 1) == 1) {
+                members.add(p);
+            }
+        }
+        return members;
     }
 
     /** All weights the same. */

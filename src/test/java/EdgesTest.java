@@ -12,8 +12,10 @@ public final class EdgesTest {
     private static final Check check = new Check("EdgesTest");
 
     public static void main(String[] args) {
-        check.sentence("What it is", "An object is used for at most 512 calls after it has been made",
-                EdgesTest::call512IsAnswered);
+        String calls = "An object is used for at most 512 calls after it has been made";
+        check.sentence("What it is, call 512", calls, EdgesTest::call512IsAnswered);
+        check.sentence("What it is, call 511", calls, EdgesTest::call511IsSeenByCall512);
+        check.sentence("What it is, one call 512 times", calls, EdgesTest::allOf512CallsAreAnswered);
 
         check.sentence("Terms", "The BOARD has four rows and four columns of SQUARES (0 to 15)",
                 EdgesTest::placesOnEachSquare);
@@ -56,14 +58,19 @@ public final class EdgesTest {
         check.end();
     }
 
-    /** After one weight and 510 turns, which are as good as two, the weight 3 stands on place 11. */
-    private static DimerCounter after511Calls() {
+    /** One weight and then turns, which carry the 3 from place 0 to 15, 11, 20 and back. */
+    private static DimerCounter afterCalls(int calls) {
         DimerCounter x = new DimerCounter();
         x.weight(0, 3);
-        for (int turns = 1; turns <= 510; turns++) {
+        for (int call = 2; call <= calls; call++) {
             x.turn();
         }
         return x;
+    }
+
+    /** 510 turns are as good as two: the 3 stands on place 11. */
+    private static DimerCounter after511Calls() {
+        return afterCalls(511);
     }
 
     private static void call512IsAnswered() {
@@ -81,11 +88,30 @@ public final class EdgesTest {
         check.due("call 512, possible()", after511Calls().possible(), TILINGS);
         check.due("call 512, canUse(11)", after511Calls().canUse(11), true);
         check.due("call 512, settled()", after511Calls().settled(), 0);
-        DimerCounter few = new DimerCounter();
-        few.weight(11, 3);
-        check.due("call 512, acrossTotal()", after511Calls().acrossTotal(), few.acrossTotal());
+        BoardModel model = new BoardModel();
+        model.weight(11, 3);
+        check.due("call 512, acrossTotal()", after511Calls().acrossTotal(), model.acrossTotal());
+        // Where a turn has brought the weights would be seen by call 513, whose answer is free.
         after511Calls().turn();
+    }
 
+    /** After 509 turns, which are as good as one, the 3 stands on place 15. */
+    private static void call511IsSeenByCall512() {
+        DimerCounter weighted = afterCalls(510);
+        check.due("call 511, weight(15, 4)", weighted.weight(15, 4), 3);
+        check.due("call 512, weightOf(15)", weighted.weightOf(15), 4);
+        DimerCounter even = afterCalls(510);
+        check.due("call 511, all(2)", even.all(2), 0);
+        check.due("call 512, total()", even.total(), TILINGS * 256);
+        DimerCounter forced = afterCalls(510);
+        check.due("call 511, force(3, 2)", forced.force(3, 2), 1);
+        check.due("call 512, after force: weightOf(15)", forced.weightOf(15), 0);
+        DimerCounter turned = afterCalls(510);
+        turned.turn();
+        check.due("call 512, after turn: weightOf(11)", turned.weightOf(11), 3);
+    }
+
+    private static void allOf512CallsAreAnswered() {
         DimerCounter changing = new DimerCounter();
         for (int call = 1; call <= 512; call++) {
             int old = call == 1 ? 1 : (call - 1) % 5;
@@ -192,14 +218,16 @@ public final class EdgesTest {
     private static void thirtySixTilings() {
         check.due("possible()", new DimerCounter().possible(), TILINGS);
         check.due("total()", new DimerCounter().total(), TILINGS);
-        // Each of them alone, so that none is missing for which another one stands twice.
-        List<List<Integer>> tilings = new BoardModel().tilings();
-        check.due("tilings of the model", tilings.size(), TILINGS);
+        List<List<Integer>> tilings = Boards.tilings();
+        check.due("sets of eight places that cover every square just once", tilings.size(), TILINGS);
+        // Each of them alone, so that none is missing for which another one stands twice; settled
+        // tells that what is counted there has all eight places.
         for (List<Integer> tiling : tilings) {
             DimerCounter x = Boards.even(0);
             tiling.forEach(place -> x.weight(place, 1));
             check.due("the places " + tiling + " alone, possible()", x.possible(), 1);
             check.due("the places " + tiling + " alone, total()", x.total(), 1);
+            check.due("the places " + tiling + " alone, settled()", x.settled(), 8);
         }
     }
 

@@ -1,3 +1,5 @@
+import java.util.Set;
+
 /** Long mixed runs, each call held against BoardModel; a run keeps to the document's 512 calls. */
 public final class ModelRunsTest {
     private static final int RUNS = 400;
@@ -10,6 +12,8 @@ public final class ModelRunsTest {
     public static void main(String[] args) {
         check = new Check("ModelRunsTest");
         check.due("tilings of the model", new BoardModel().tilings().size(), 36);
+        check.that("the model has the tilings of the document's words",
+                Set.copyOf(new BoardModel().tilings()).equals(Set.copyOf(Boards.tilings())));
         everyPairOfPlaces();
         everyForce();
         for (int run = 0; run < RUNS; run++) {
